@@ -571,7 +571,6 @@ public final class LoadCounter {
         return length;
     }
 
-    /** The bytes that were fed and not yet read. */
     private static final class Tape {
         final byte[] bytes = new byte[MOST_BYTES];
         int used;
@@ -640,7 +639,7 @@ public final class LoadCounter {
         }
     }
 
-    /** A PLACE with what is in it; a Sum keeps no cells of its own. */
+    /** A Sum keeps no cells of its own, since those that it adds may change at any call. */
     private static final class Place {
         final int[] cells = new int[MOST_SPANS];
         int kind = EMPTY;
@@ -704,7 +703,7 @@ public final class LoadCounter {
         }
     }
 
-    /** A few pairs whose first numbers go upwards: BOUNDS, MEANS or STEPS. */
+    /** One for BOUNDS, MEANS and STEPS alike: they go upwards, and the first not below tells. */
     private static final class Ladder {
         final int[] tops;
         final int[] values;
@@ -760,7 +759,6 @@ public final class LoadCounter {
         }
     }
 
-    /** A DETAIL: how it takes loads, and how a crack in it grows. */
     private static final class Detail {
         final Ladder bounds = new Ladder(BOUNDS);
         final Ladder means = new Ladder(MEANS);
@@ -790,13 +788,12 @@ public final class LoadCounter {
             return (row.rangeOf(first, second) * percentage + 99) / 100;
         }
 
-        /** The number of the BOUND that tells for an EFFECT, BOUNDS for none. */
+        /** Where no BOUND tells, it is the number behind all, as part() and parts() have it. */
         int boundFor(int effect) {
             int bound = bounds.firstNotBelow(effect);
             return bound == NONE ? BOUNDS : bound;
         }
 
-        /** What one CYCLE under this BOUND uses of LIFE. */
         long useUnder(int bound) {
             int bears = bound == BOUNDS ? 1 : bounds.valueAt(bound);
             return bears < 1 ? LIFE : LIFE / bears;
@@ -808,8 +805,8 @@ public final class LoadCounter {
         }
 
         /**
-         * How many CYCLES above THRESHOLD bring the crack from a length to another; NONE, if none
-         * do. Under one STEP all are alike, so they are reckoned at once.
+         * NONE, if no number of CYCLES brings it there. Under one STEP all make the crack longer
+         * by as much, so they are reckoned at once and not one by one.
          */
         long cyclesUntil(int length, int target) {
             if (target > MOST_LENGTH) {
@@ -834,7 +831,7 @@ public final class LoadCounter {
         }
     }
 
-    /** All that an IMAGE keeps: the PLACES and the DETAILS. */
+    /** Apart from the tape, since an IMAGE keeps just this. */
     private static final class Board {
         final Place[] places = new Place[PLACES];
         final Detail[] details = new Detail[DETAILS];
@@ -861,7 +858,7 @@ public final class LoadCounter {
             return place != null && place.isGauge() ? place : null;
         }
 
-        /** A GAUGE that is no Sum. */
+        /** A Sum is not fed, torn or filled, and nothing is the sum of one. */
         Place fedGaugeAt(int p) {
             Place gauge = gaugeAt(p);
             return gauge != null && gauge.kind != SUM ? gauge : null;
@@ -933,7 +930,7 @@ public final class LoadCounter {
         }
     }
 
-    /** The ROW of a GAUGE from a SPAN on, with its TURNS, CYCLES and REST; made anew for each call. */
+    /** Reckoned anew for each call that asks, since a gauge may have changed since the last one. */
     private static final class Row {
         final int[] kept = new int[MOST_SPANS];
         final int[] turns = new int[MOST_SPANS];
@@ -1073,7 +1070,7 @@ public final class LoadCounter {
         }
     }
 
-    /** How much of a DETAIL's life is used, in all and under each BOUND; the last part is of none. */
+    /** Counts in units of LIFE, so that all is exact in whole numbers. */
     private static final class Wear {
         final long[] parts = new long[BOUNDS + 1];
         long least;
@@ -1117,7 +1114,6 @@ public final class LoadCounter {
             return bound >= 0 && bound < parts.length ? parts[bound] : 0;
         }
 
-        /** How many parts are greater, or as great and of a lesser number. */
         int partsAheadOf(int bound) {
             long own = partOf(bound);
             int ahead = 0;
@@ -1130,7 +1126,7 @@ public final class LoadCounter {
         }
     }
 
-    /** Holds against each other the TURNS that should be told together and those that are. */
+    /** Has room for 256 TURNS alone, since a byte of the tape can tell no more. */
     private static final class Checker {
         final int[] due = new int[MOST_TURNS_CHECKED];
         final int[] told = new int[MOST_TURNS_CHECKED];
@@ -1158,7 +1154,6 @@ public final class LoadCounter {
             }
         }
 
-        /** NONE, if all are told as they should be. */
         int leastWrong(int turns) {
             for (int i = 0; i < turns && i < due.length && i < told.length; i++) {
                 if (due[i] != told[i]) {

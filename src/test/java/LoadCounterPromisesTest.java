@@ -155,6 +155,8 @@ public final class LoadCounterPromisesTest {
         is("to 399", o.put(6, 3, 399, 399), true);
         is("sum of -1", o.put(7, 4, -1, 0), false);
         is("sum of 12", o.put(7, 4, 0, 12), false);
+        is("12 first", o.put(7, 4, 12, 0), false);
+        is("-1 behind", o.put(7, 4, 0, -1), false);
         is("sum of one", o.put(7, 4, 11, 11), true);
         is("refused: nothing there", o.kind(8), -1);
         load(o, 0, 1, 2, 3);
@@ -510,8 +512,8 @@ public final class LoadCounterPromisesTest {
         int[][] told = {{2, 3, 1, 4, 7, 8, 5, 6}, {6, 5, 8, 7, 4, 1, 3, 2}, {2, 3, 1, 4, 7, 8}, {},
             {2, 3, 1, 4, 7, 8, 5, 6, 5, 6}, {0, 9, 2, 3, 1, 4, 7, 8, 5, 6}, {2, 3, 4, 4, 7, 8, 5, 6},
             {2, 4, 1, 3, 7, 8, 5, 6}, {2, 3, 1, 4, 7, 8, 5, 9}, {2, 3, 1, 4, 7, 8, 5, 6, 9, 9},
-            {3, 1, 2, 3, 1, 4}, {2, 3, 1}, {2, 10}, {255, 1}};
-        int[] due = {0, 0, 6, 2, 6, 1, 2, 2, 6, 10, 2, -2, -2, -2};
+            {3, 1, 2, 3, 1, 4}, {2, 3, 1, 4, 7, 8, 5, 6, 9, 0}, {2, 3, 1}, {2, 10}, {255, 1}};
+        int[] due = {0, 0, 6, 2, 6, 1, 2, 2, 6, 10, 2, 1, -2, -2, -2};
         for (int i = 0; i < told.length; i++) {
             tell(o, told[i]);
             is("told " + i, o.check(0), due[i]);
@@ -976,6 +978,13 @@ public final class LoadCounterPromisesTest {
         is("step", o.undo() && o.step(0, 50, 1) == 1, true);
         is("mend", o.mend(0) == 3 && o.undo() && o.length(0) == 50 && o.damage(0, 0, 1) == 10, true);
         is("no more", o.undo(), false);
+        is("mend alone was undone", o.step(0, 50, 1), -1);
+        o.bound(0, 7, 7);
+        o.plug(9);
+        is("a place alone", o.undo() && o.kind(9) == -1 && o.part(0, 1) == 0, true);
+        o.plug(9);
+        o.bound(0, 8, 7);
+        is("a detail alone", o.undo() && o.kind(9) == 5 && o.bound(0, 8, 7) == 3, true);
     }
 
     private static void undoOfWhatWasNotDone(LoadCounter o) {
