@@ -22,9 +22,11 @@ public final class LoadCounterEdgesTest {
         LoadCounter o = new LoadCounter();
         for (int p = 0; p < 12; p++) {
             t.is("PLACE " + p, o.kind(p), -1);
-            t.is("LEAST of DETAIL " + p, o.damage(p, 0, 0), 0);
-            t.is("in lowest terms", o.damage(p, 0, 1), 1);
-            t.is("MOST", o.damage(p, 1, 0), 0);
+            for (int sort = 0; sort < 2; sort++) {
+                t.is("LEAST or MOST of DETAIL " + p, o.damage(p, sort, 0), 0);
+                t.is("in lowest terms", o.damage(p, sort, 1), 1);
+                t.is("not over", o.damage(p, sort, 2), 0);
+            }
             t.is("no BOUND", Sentences.answer(d -> d.part(0, 0), o), Sentences.THROWN);
             t.is("6 there is", o.part(p, 6), 0);
             t.is("CRACK", o.length(p), -1);
@@ -423,6 +425,10 @@ public final class LoadCounterEdgesTest {
         t.of("Promise 24", "the number above (what 0), below (1) in lowest terms; 2 whether it is 1 or more");
         fraction("nothing", Sentences.strain(), 0, 0, 1, 0);
         fraction("nothing", Sentences.strain(), 1, 0, 1, 0);
+        LoadCounter plugged = Sentences.strain(0, 9, BEYOND);
+        plugged.plug(0);
+        fraction("a PLUG", plugged, 0, 0, 1, 0);
+        fraction("a PLUG", plugged, 1, 0, 1, 0);
         fraction("a HALF", Sentences.strain(0, 9), 0, 1, 2, 0);
         fraction("two", Sentences.strain(0, 9, 0), 0, 1, 1, 1);
         fraction("three", Sentences.strain(0, 9, 0, 10), 0, 3, 2, 1);
